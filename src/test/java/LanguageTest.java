@@ -4,7 +4,7 @@ import java.nio.file.Path;
 import java.util.regex.Matcher;
 import java.util.regex.Pattern;
 
-/** The rules of LANGUAGE.md that the program's text shows; run from the project's folder. */
+/** Scans the program for words and forms that LANGUAGE.md forbids; run from the project's folder. */
 public final class LanguageTest {
     private static final String[] NOT_HAD = {
         "import", "package", "throw", "throws", "try", "catch", "synchronized", "assert",
