@@ -1,19 +1,16 @@
 import java.util.ArrayList;
 import java.util.List;
 
-/**
- * Long runs of calls, each answer compared with a second reading of the document: a tree is what
- * the root reaches, and it is flat if no two of its arcs cross.
- */
+/** Long runs of calls, each answer compared with a second reading of the document. */
 public final class OracleTest {
-    private static final int BAD = -2000000;
-    private static final int NONE = -1000000;
+    private static final int BAD = Cases.BAD;
+    private static final int NONE = Cases.NONE;
     private static final int CALLS = 512;
     private static final int RUNS = 60;
     private static final Answers ANSWERS = new Answers();
 
     private final int n;
-    private final List<int[]> flatTrees = new ArrayList<>();
+    private final List<int[]> flatTrees;
     private final int[][] scores = new int[6][6];
     private final boolean[][] bans = new boolean[6][6];
     private final SpanDepParser parser;
@@ -25,7 +22,7 @@ public final class OracleTest {
         parser = new SpanDepParser(n, single);
         name = "n " + n + " single " + single + " run " + run + ": ";
         seed = 1000003L * run + 31L * n + single;
-        growTrees(new int[n + 1], 1, single != 0);
+        flatTrees = FlatTrees.of(n, single != 0);
     }
 
     public static void main(String[] args) {
@@ -40,57 +37,6 @@ public final class OracleTest {
             }
         }
         ANSWERS.end();
-    }
-
-    private void growTrees(int[] heads, int d, boolean single) {
-        if (d > n) {
-            if (reachesAll(heads) && !crosses(heads) && (!single || rootWords(heads) == 1)) {
-                flatTrees.add(heads.clone());
-            }
-            return;
-        }
-        for (int h = 0; h <= n; h++) {
-            heads[d] = h;
-            growTrees(heads, d + 1, single);
-        }
-    }
-
-    private boolean reachesAll(int[] heads) {
-        boolean[] reached = new boolean[n + 1];
-        reached[0] = true;
-        int count = 0;
-        for (int round = 0; round < n; round++) {
-            for (int d = 1; d <= n; d++) {
-                if (!reached[d] && reached[heads[d]]) {
-                    reached[d] = true;
-                    count++;
-                }
-            }
-        }
-        return count == n;
-    }
-
-    private boolean crosses(int[] heads) {
-        for (int a = 1; a <= n; a++) {
-            int left = Math.min(a, heads[a]);
-            int right = Math.max(a, heads[a]);
-            for (int b = 1; b <= n; b++) {
-                int low = Math.min(b, heads[b]);
-                int high = Math.max(b, heads[b]);
-                if (left < low && low < right && right < high) {
-                    return true;
-                }
-            }
-        }
-        return false;
-    }
-
-    private int rootWords(int[] heads) {
-        int count = 0;
-        for (int d = 1; d <= n; d++) {
-            count += heads[d] == 0 ? 1 : 0;
-        }
-        return count;
     }
 
     /** A fixed sequence, so that a wrong answer comes again in every run of the test. */
@@ -117,7 +63,7 @@ public final class OracleTest {
     }
 
     private boolean isArc(int h, int d) {
-        return 0 <= h && h <= n && 1 <= d && d <= n && h != d;
+        return Cases.isArc(n, h, d);
     }
 
     private void oneCall(int run, int call) {
@@ -182,7 +128,7 @@ public final class OracleTest {
 
     private boolean allowed(int[] heads) {
         for (int d = 1; d <= n; d++) {
-            if (bans[heads[d]][d]) {
+            if (bans[heads[d - 1]][d]) {
                 return false;
             }
         }
@@ -192,7 +138,7 @@ public final class OracleTest {
     private int sum(int[] heads) {
         int sum = 0;
         for (int d = 1; d <= n; d++) {
-            sum += scores[heads[d]][d];
+            sum += scores[heads[d - 1]][d];
         }
         return sum;
     }
@@ -200,7 +146,7 @@ public final class OracleTest {
     private int best(int h, int d, boolean any, boolean has) {
         int best = NONE;
         for (int[] heads : flatTrees) {
-            if (allowed(heads) && (any || (heads[d] == h) == has)) {
+            if (allowed(heads) && (any || (heads[d - 1] == h) == has)) {
                 best = Math.max(best, sum(heads));
             }
         }
@@ -232,17 +178,17 @@ public final class OracleTest {
             return NONE;
         }
         for (int word = 1; word <= n; word++) {
-            int at = word;
+            int at = word - 1;
             int least = ones.stream().mapToInt(heads -> heads[at]).min().getAsInt();
             ones.removeIf(heads -> heads[at] != least);
         }
-        return ones.get(0)[d];
+        return ones.get(0)[d - 1];
     }
 
     private int treesWith(int h, int d, boolean any) {
         int count = 0;
         for (int[] heads : flatTrees) {
-            count += allowed(heads) && (any || heads[d] == h) ? 1 : 0;
+            count += allowed(heads) && (any || heads[d - 1] == h) ? 1 : 0;
         }
         return count;
     }

@@ -1,9 +1,9 @@
-/** Each promise of the document by itself: ordinary inputs, its edges, and wrong inputs. */
+/** Each promise of the document by itself, in small cases worked out by hand. */
 public final class PromiseTest {
-    private static final int BAD = -2000000;
-    private static final int NONE = -1000000;
-    private static final int LEAST = Integer.MIN_VALUE;
-    private static final int MOST = Integer.MAX_VALUE;
+    private static final int BAD = Cases.BAD;
+    private static final int NONE = Cases.NONE;
+    private static final int LEAST = Cases.LEAST;
+    private static final int MOST = Cases.MOST;
 
     /** For n = 3: couples that are no arc. */
     private static final int[][] NO_ARCS = {
@@ -260,26 +260,18 @@ public final class PromiseTest {
         x.score(0, 1, 1000);
         due("7: scores do not matter", x.trees(), 12);
         // Only the heads (2, 0, 1) are left: a tree, but (1, 3) covers 2, which does not come to 1.
-        allowOnly(x, 3, new int[] {2, 0, 1});
+        Cases.allowOnly(x, 2, 0, 1);
         due("7: a tree that is not flat", x.trees(), 0);
-        allowOnly(x, 3, new int[] {2, 3, 1});
+        Cases.allowOnly(x, 2, 3, 1);
         due("7: a circle", x.trees(), 0);
-        allowOnly(x, 3, new int[] {3, 1, 0});
+        Cases.allowOnly(x, 3, 1, 0);
         due("7: a flat tree", x.trees(), 1);
 
         SpanDepParser single = new SpanDepParser(3, 1);
-        allowOnly(single, 3, new int[] {0, 1, 0});
+        Cases.allowOnly(single, 0, 1, 0);
         due("7: two words at the root", single.trees(), 0);
-        allowOnly(single, 3, new int[] {0, 1, 1});
+        Cases.allowOnly(single, 0, 1, 1);
         due("7: one word at the root", single.trees(), 1);
-    }
-
-    private static void allowOnly(SpanDepParser x, int n, int[] heads) {
-        for (int h = 0; h <= n; h++) {
-            for (int d = 1; d <= n; d++) {
-                x.ban(h, d, heads[d - 1] != h);
-            }
-        }
     }
 
     // Promise 8
