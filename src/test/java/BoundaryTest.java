@@ -40,7 +40,8 @@ public final class BoundaryTest {
         ANSWERS.sentence("6: the number of flat trees with the greatest score",
                 BoundaryTest::bestTreesFromOneToAll);
         ANSWERS.sentence("6: 0 if there is no flat tree", BoundaryTest::bestTreesOfNone);
-        ANSWERS.sentence("7: the number of flat trees, also none", BoundaryTest::treesFromNoneToAll);
+        ANSWERS.sentence("7: the number of flat trees, also none",
+                BoundaryTest::treesFromNoneToAll);
         ANSWERS.sentence("8: NONE if none has it", BoundaryTest::bestWithNone);
         ANSWERS.sentence("8: BAD if (h, d) is no arc", BoundaryTest::bestWithNoArc);
         ANSWERS.sentence("9: NONE if all have it", BoundaryTest::bestWithoutAllHaveIt);
@@ -121,7 +122,7 @@ public final class BoundaryTest {
                 due("not single: trees()" + only, Cases.onlyTree(0, heads).trees(), 1);
             }
         }
-        // The heads (0, 0) would be the best of all, the first, and one more: no question counts them.
+        // The heads (0, 0) would be the best, the first, and one more: no question counts them.
         SpanDepParser x = new SpanDepParser(2, 1);
         x.score(0, 1, 100);
         x.score(0, 2, 100);
@@ -309,12 +310,12 @@ public final class BoundaryTest {
                 }
             }
         });
-        // Three are best: (2, 0, 2) comes before (2, 3, 0) and (3, 3, 0), and (0, 1, 1) is worse.
+        // Four are best: (2, 0, 2), (2, 3, 0), (3, 1, 0), (3, 3, 0). Those that begin with 0 are worse.
         SpanDepParser ties = new SpanDepParser(3, 1);
         ties.score(0, 1, -1);
-        due("head(1) of three ties", ties.head(1), 2);
-        due("head(2) of three ties", ties.head(2), 0);
-        due("head(3) of three ties", ties.head(3), 2);
+        due("head(1) of four ties", ties.head(1), 2);
+        due("head(2) of four ties", ties.head(2), 0);
+        due("head(3) of four ties", ties.head(3), 2);
     }
 
     private static void headOfNone() {
@@ -599,7 +600,8 @@ public final class BoundaryTest {
         everyKind((n, single) -> {
             for (SpanDepParser x : Cases.withoutFlatTree(n, single)) {
                 for (int d : Cases.numbers()) {
-                    due("head(" + d + ") of none of " + n, x.head(d), 1 <= d && d <= n ? NONE : BAD);
+                    due("head(" + d + ") of none of " + n, x.head(d),
+                            1 <= d && d <= n ? NONE : BAD);
                 }
             }
         });

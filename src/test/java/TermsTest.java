@@ -111,7 +111,7 @@ public final class TermsTest {
     }
 
     private static void endsAreNotCovered() {
-        // Neighbours cover nothing: the heads (0, 1, 0) would not be flat if (1, 2) covered 2's end 1.
+        // Neighbours cover nothing, so nothing is asked of the numbers at the ends.
         dueOnlyTree(0, 1, 0, 1, 0);
         dueOnlyTree(0, 1, 2, 0, 0);
         dueOnlyTree(0, 1, 0, 3, 0);
