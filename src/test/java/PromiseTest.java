@@ -33,6 +33,7 @@ public final class PromiseTest {
         clearForgets();
         badComesBeforeNone();
         refusedCallsChangeNothing();
+        questionsChangeNothing();
         objectsAreApart();
         ANSWERS.end();
     }
@@ -403,6 +404,31 @@ public final class PromiseTest {
         due("12: head(3)", x.head(3), 2);
         due("12: bestWith(1, 2)", x.bestWith(1, 2), 2);
         due("12: bans", x.clear(), 2);
+    }
+
+    /** Only score, ban and clear are told to change something. */
+    private static void questionsChangeNothing() {
+        SpanDepParser x = new SpanDepParser(3, 1);
+        x.score(0, 2, 6);
+        x.score(2, 3, -2);
+        x.ban(2, 1, true);
+        for (int time = 1; time <= 3; time++) {
+            // Left are (0, 1, 1), (0, 1, 2), (0, 3, 1), (3, 1, 0) and (3, 3, 0).
+            due("the best, time " + time, x.best(), 0);
+            due("the number of best, time " + time, x.bestTrees(), 4);
+            due("the number of trees, time " + time, x.trees(), 5);
+            for (int h = 0; h <= 3; h++) {
+                x.bestWith(h, 1);
+                x.bestWithout(h, 2);
+                x.treesWith(h, 3);
+            }
+            due("head(1), time " + time, x.head(1), 0);
+            due("head(2), time " + time, x.head(2), 1);
+            due("head(3), time " + time, x.head(3), 1);
+        }
+        x.ban(2, 1, false);
+        due("the score that a ban hid", x.bestWith(0, 2), 4);
+        due("no ban is left", x.clear(), 0);
     }
 
     private static void objectsAreApart() {

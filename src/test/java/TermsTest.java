@@ -47,6 +47,44 @@ public final class TermsTest {
         due("call 510, best()", x.best(), 507);
         due("call 511, head(5)", x.head(5), 2);
         due("call 512, clear()", x.clear(), 1);
+
+        // Each call is once the last one, behind 511 of all kinds.
+        due("score(2, 1, 1000)", used511Calls().score(2, 1, 1000), true);
+        due("score(2, 1, 1001)", used511Calls().score(2, 1, 1001), false);
+        due("ban(2, 1, false)", used511Calls().ban(2, 1, false), true);
+        due("ban(6, 1, false)", used511Calls().ban(6, 1, false), false);
+        due("best()", used511Calls().best(), 55);
+        due("head(5)", used511Calls().head(5), 3);
+        // With (3, 5), word 4 has 3 or 5 as head, and nine trees of the words 1 to 3 lack (2, 1).
+        due("bestTrees()", used511Calls().bestTrees(), 18);
+        // With (2, 1), word 1 has no words, so the 55 trees of the four others are gone.
+        due("trees()", used511Calls().trees(), 273 - 55);
+        due("bestWith(0, 1)", used511Calls().bestWith(0, 1), 55);
+        due("bestWithout(3, 5)", used511Calls().bestWithout(3, 5), 0);
+        due("treesWith(2, 1)", used511Calls().treesWith(2, 1), 0);
+        due("clear()", used511Calls().clear(), 1);
+    }
+
+    /** Calls that answer and are refused, and then: (3, 5) has the score 55 and (2, 1) is banned. */
+    private static SpanDepParser used511Calls() {
+        SpanDepParser x = new SpanDepParser(5, 0);
+        for (int round = 1; round <= 46; round++) {
+            x.clear();
+            x.score(3, 5, round + 9);
+            x.score(3, 5, 1001);
+            x.ban(2, 1, true);
+            x.ban(0, 0, true);
+            x.best();
+            x.head(round % 7);
+            x.bestTrees();
+            x.trees();
+            x.bestWith(round % 7, 2);
+            x.bestWithout(3, round % 7);
+        }
+        for (int call = 507; call <= 511; call++) {
+            x.treesWith(2, call - 506);
+        }
+        return x;
     }
 
     private static void whatAnArcIs() {
