@@ -109,8 +109,9 @@ public final class FaceTest {
         Set<String> members = new TreeSet<>();
         for (Field field : SpanDepParser.class.getDeclaredFields()) {
             if (!Modifier.isPrivate(field.getModifiers())) {
+                boolean shared = Modifier.isStatic(field.getModifiers());
                 members.add(Modifier.toString(field.getModifiers()) + " " + field.getType() + " "
-                        + field.getName() + " = " + field.get(null));
+                        + field.getName() + (shared ? " = " + field.get(null) : ""));
             }
         }
         for (Constructor<?> made : SpanDepParser.class.getDeclaredConstructors()) {
